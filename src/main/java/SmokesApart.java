@@ -1239,8 +1239,10 @@ public final class SmokesApart {
 
         boolean someTouch() {
             for (int c = 0; c < town.chimneys; c++) {
-                if (town.isLit(c) && touchesSome(c)) {
-                    return true;
+                for (int d = c + 1; d < town.chimneys; d++) {
+                    if (closeness(c, d) >= town.thick) {
+                        return true;
+                    }
                 }
             }
             return false;
