@@ -33,6 +33,9 @@ public final class SmokesApart {
     private static final int MAX_SHEETED = 3;
     private static final int MAX_TOLD = 20;
     private static final int MAX_PLANS = 100000;
+    private static final int CALM_SEEDS = 60;
+    private static final int BREAKING_SEEDS = 200;
+    private static final int WEIGHED_SEEDS = 20;
 
     private final byte[] tape = new byte[MAX_BYTES];
     private int taped;
@@ -422,7 +425,7 @@ public final class SmokesApart {
     }
 
     public int calm(int n) {
-        return n < 1 || n > 60 ? BAD_NUMBER : forecast.calmSeeds(n);
+        return n < 1 || n > CALM_SEEDS ? BAD_NUMBER : forecast.calmSeeds(n);
     }
 
     public int steady(int k) {
@@ -442,7 +445,7 @@ public final class SmokesApart {
     }
 
     public int breaks(int n) {
-        return n < 1 || n > 200 ? BAD_NUMBER : forecast.firstBreakingSeed(n);
+        return n < 1 || n > BREAKING_SEEDS ? BAD_NUMBER : forecast.firstBreakingSeed(n);
     }
 
     public int worth(int c, int n) {
@@ -687,7 +690,7 @@ public final class SmokesApart {
         if (here.isLit(c)) {
             return NOT_NOW;
         }
-        return n < 1 || n > 20 ? BAD_NUMBER : 0;
+        return n < 1 || n > WEIGHED_SEEDS ? BAD_NUMBER : 0;
     }
 
     /** A town as told, and in which quarters its chimneys are lit. */
@@ -710,20 +713,16 @@ public final class SmokesApart {
         int lines;
 
         Town() {
-            empty();
+            begin();
         }
 
-        private void empty() {
+        void begin() {
             chimneys = 0;
             windCount = 0;
             layer = 6;
             thick = 2;
             fine = 5;
             lines = 0;
-        }
-
-        void begin() {
-            empty();
         }
 
         void takeFrom(Town other) {
@@ -1182,6 +1181,20 @@ public final class SmokesApart {
             return beginC + heights[d] - heights[c];
         }
 
+        /** The first quarter in which the k-th puff of lit c shares a cell with one of lit d. */
+        private int meetingOfPuff(int c, int k, int d) {
+            int beginC = town.litIn[c] + k;
+            int beginD = levelBeginning(c, beginC, d);
+            return town.smokeOf(d, beginD - town.litIn[d]) == 0 ? NONE : meeting(c, beginC, d, beginD);
+        }
+
+        /** The quarter in which the first of two puffs that meet so is thinned away. */
+        private int partingOfPuff(int c, int k, int d) {
+            int beginC = town.litIn[c] + k;
+            int beginD = levelBeginning(c, beginC, d);
+            return Math.min(beginC + town.smokeOf(c, k), beginD + town.smokeOf(d, beginD - town.litIn[d]));
+        }
+
         /** The quarters in which two lit chimneys touch, as bits. */
         long touchQuarters(int c, int d) {
             if (!town.isLit(c) || !town.isLit(d)) {
@@ -1189,13 +1202,10 @@ public final class SmokesApart {
             }
             long quarters = 0;
             for (int k = 0; k < town.smokeCounts[c]; k++) {
-                int beginC = town.litIn[c] + k;
-                int beginD = levelBeginning(c, beginC, d);
-                int thicknessD = town.smokeOf(d, beginD - town.litIn[d]);
-                int meet = thicknessD == 0 ? NONE : meeting(c, beginC, d, beginD);
+                int meet = meetingOfPuff(c, k, d);
                 if (meet != NONE) {
-                    int gone = Math.min(beginC + town.smokeOf(c, k), beginD + thicknessD);
-                    quarters |= quartersTogether(c, beginC, meet, gone - town.thick);
+                    int last = partingOfPuff(c, k, d) - town.thick;
+                    quarters |= quartersTogether(c, town.litIn[c] + k, meet, last);
                 }
             }
             return quarters;
@@ -1216,13 +1226,9 @@ public final class SmokesApart {
             }
             int closest = 0;
             for (int k = 0; k < town.smokeCounts[c]; k++) {
-                int beginC = town.litIn[c] + k;
-                int beginD = levelBeginning(c, beginC, d);
-                int thicknessD = town.smokeOf(d, beginD - town.litIn[d]);
-                int meet = thicknessD == 0 ? NONE : meeting(c, beginC, d, beginD);
+                int meet = meetingOfPuff(c, k, d);
                 if (meet != NONE) {
-                    int gone = Math.min(beginC + town.smokeOf(c, k), beginD + thicknessD);
-                    closest = Math.max(closest, gone - meet);
+                    closest = Math.max(closest, partingOfPuff(c, k, d) - meet);
                 }
             }
             return closest;

@@ -167,6 +167,12 @@ public final class PromisesTest {
         faulty("fine 0001;", 1, 5);
         faulty("fine 1 99999999999;", 1, 7);
         faulty("1000;", 1, 0);
+        faulty("zine 1;", 2, 0);
+        faulty("fine 1z;", 2, 6);
+        faulty("fine 1`;", 1, 6);
+        faulty("fine 1{;", 1, 6);
+        faulty("fine 1/;", 1, 6);
+        faulty("fine 1:;", 1, 6);
         faulty("wind 1 1000", 1, 7);
         good("fine 001;", 1);
         good("\n fine\n1 ;\n\n", 1);
@@ -978,6 +984,11 @@ public final class PromisesTest {
         SmokesApart many = Check.town(wide.toString());
         for (int c = 0; c < 10; c++) many.light(c, c);
         due("90 cells", many.sky(), 9);
+        StringBuilder forked = new StringBuilder("wind 1 4 4;wind 2 3 3;");
+        for (int c = 0; c < 7; c++) forked.append("chimney ").append(5 * c).append(" 0 9 9;");
+        SmokesApart fork = Check.town(forked.toString());
+        for (int c = 0; c < 7; c++) fork.light(c, 0);
+        due("119 cells", fork.sky(), 11);
     }
 
     // ---- promises 39 and 40
