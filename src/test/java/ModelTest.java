@@ -6,6 +6,7 @@ import java.util.Random;
 /** Random runs of calls, each answered by SmokesApart and by PlainModel: both must say the same. */
 public final class ModelTest {
     private static final int RUNS = Integer.getInteger("runs", 250);
+    private static final int FIRST = Integer.getInteger("first", 1000);
     private static int wrong = 0;
 
     private final Random random;
@@ -19,7 +20,7 @@ public final class ModelTest {
 
     public static void main(String[] args) {
         long calls = 0;
-        for (int run = 0; run < RUNS && wrong < 5; run++) calls += new ModelTest(1000 + run).go();
+        for (int run = 0; run < RUNS && wrong < 5; run++) calls += new ModelTest(FIRST + run).go();
         System.out.println(calls + " calls told by the model, " + wrong + " runs went wrong");
         if (wrong != 0) System.exit(1);
     }
