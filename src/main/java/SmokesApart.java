@@ -159,13 +159,14 @@ public final class SmokesApart {
     }
 
     public int judge(int row, int what) {
-        if (!isRow(row) || what < 0 || what > 2) {
+        NumberRow told = rowAt(row);
+        if (told == null || what < 0 || what > 2) {
             return NO_SUCH;
         }
-        if (rows[row].isMissing()) {
+        if (told.isMissing()) {
             return ROW_MISSING;
         }
-        court.tryRow(rows[row]);
+        court.tryRow(told);
         switch (what) {
             case 0:
                 return court.place;
@@ -177,13 +178,11 @@ public final class SmokesApart {
     }
 
     public int perform(int row) {
-        if (!isRow(row)) {
+        NumberRow told = rowAt(row);
+        if (told == null) {
             return NO_SUCH;
         }
-        if (rows[row].isMissing()) {
-            return ROW_MISSING;
-        }
-        return court.lightRow(rows[row]);
+        return told.isMissing() ? ROW_MISSING : court.lightRow(told);
     }
 
     // ---- smoke
@@ -396,7 +395,7 @@ public final class SmokesApart {
     }
 
     public int sheet(int row, int k, int c) {
-        if (!isRow(row) || !here.has(c)) {
+        if (rowAt(row) == null || !here.has(c)) {
             return NO_SUCH;
         }
         int refused = refusalOfSheets(row);
@@ -474,38 +473,41 @@ public final class SmokesApart {
     // ---- rows of numbers, images
 
     public int numbers(int row, int sort, int n) {
-        if (!isRow(row) || sort < 0 || sort > 3) {
+        NumberRow it = rowAt(row);
+        if (it == null || sort < 0 || sort > 3) {
             return NO_SUCH;
         }
         if (n < 0 || n > ROW_PLACES) {
             return BAD_NUMBER;
         }
-        rows[row].begin(sort, n);
+        it.begin(sort, n);
         return 0;
     }
 
     public long write(int row, int i, long v) {
-        if (!isRow(row)) {
+        NumberRow it = rowAt(row);
+        if (it == null) {
             return NO_SUCH;
         }
-        if (rows[row].isMissing()) {
+        if (it.isMissing()) {
             return ROW_MISSING;
         }
-        return rows[row].hasPlace(i) ? rows[row].put(i, v) : NO_PLACE;
+        return it.hasPlace(i) ? it.put(i, v) : NO_PLACE;
     }
 
     public int copy(int row) {
-        if (!isRow(row)) {
+        NumberRow it = rowAt(row);
+        if (it == null) {
             return NO_SUCH;
         }
-        if (rows[row].isMissing()) {
+        if (it.isMissing()) {
             return ROW_MISSING;
         }
-        if (rows[row].size < here.chimneys) {
+        if (it.size < here.chimneys) {
             return NO_PLACE;
         }
         for (int c = 0; c < here.chimneys; c++) {
-            rows[row].put(c, here.litIn[c]);
+            it.put(c, here.litIn[c]);
         }
         return here.chimneys;
     }
@@ -571,8 +573,9 @@ public final class SmokesApart {
         return x >= 0 && x < WIDTH;
     }
 
-    private static boolean isRow(int row) {
-        return row >= 0 && row < ROWS;
+    /** A row of numbers, null if there is none such. */
+    private NumberRow rowAt(int row) {
+        return row >= 0 && row < ROWS ? rows[row] : null;
     }
 
     private boolean areTwo(int c, int d) {
@@ -671,16 +674,17 @@ public final class SmokesApart {
 
     /** What refuses sheets in a row, 0 if nothing does; then the days are ready to be sought. */
     private int refusalOfSheets(int row) {
-        if (!isRow(row)) {
+        NumberRow told = rowAt(row);
+        if (told == null) {
             return NO_SUCH;
         }
-        if (rows[row].isMissing()) {
+        if (told.isMissing()) {
             return ROW_MISSING;
         }
         if (here.chimneys > MAX_SHEETED) {
             return TOO_MANY;
         }
-        return days.takeSheets(rows[row]) ? 0 : BAD_NUMBER;
+        return days.takeSheets(told) ? 0 : BAD_NUMBER;
     }
 
     private int refusalOfForecast(int c, int n) {
