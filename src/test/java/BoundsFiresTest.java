@@ -503,6 +503,10 @@ public final class BoundsFiresTest {
             for (int c = 0; c < 10; c++) due("chimney " + c, it.pays(c), c * 14 * 99);
             due("all", it.count(6), 45 * 14 * 99);
             due("not lit", Check.town(TEN).pays(9), 0);
+            SmokesApart turned = Bounds.lit("chimney 5 0 9 9;chimney 5 0 9 9;chimney 5 0 9 9;fine 1;", 0, 9, 1, 8, 2, 7);
+            int[] pays = {8, 8, 0};
+            for (int c = 0; c < 3; c++) due("who was lit later: " + c, turned.pays(c), pays[c]);
+            due("who was lit later: all", turned.count(6), 16);
         });
         Bounds.holds(17, "-2.", () -> {
             for (int c : new int[] {-1, 4, LEAST, GREATEST}) Bounds.refused("chimney " + c, Bounds.lively(), -2, it -> it.pays(c));
@@ -531,6 +535,7 @@ public final class BoundsFiresTest {
     private static void promise19() {
         Bounds.holds(19, "The X with the most SOOT, the least.", () -> {
             due("no soot at all", new SmokesApart().blackest(), 0);
+            for (int x = 0; x < 40; x++) due("at " + x, Bounds.lit("chimney " + x + " 0 1;", 0, 0).blackest(), x);
             due("none lit", Check.town(TEN).blackest(), 0);
             due("the first X", Bounds.lit("chimney 0 0 1;chimney 39 0 1;", 0, 0, 1, 0).blackest(), 0);
             due("the last X", Bounds.lit("chimney 0 0 1;chimney 39 0 2;", 0, 0, 1, 0).blackest(), 39);

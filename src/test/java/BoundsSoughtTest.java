@@ -60,6 +60,19 @@ public final class BoundsSoughtTest {
             it.light(1, 8);
             due("itself aside", it.free(1), 1 << 7 | 1 << 9);
             due("itself aside, the other", it.free(0), 0xffffff & ~(1 << 8));
+            int all = 0xffffff;
+            due("each of its quarters", Bounds.lit(ALIKE + "chimney 5 0 2 2 2;", 0, 8).free(1), all & ~(7 << 6));
+            due("each of the other's", Bounds.lit("chimney 5 0 2 2 2;" + ALIKE, 0, 8).free(1), all & ~(7 << 8));
+            due("but where it is too thin", Bounds.lit(ALIKE + "chimney 5 0 2 1 2;", 0, 8).free(1), all & ~(5 << 6));
+            due("but where the other is", Bounds.lit("chimney 5 0 2 1 2;" + ALIKE, 0, 8).free(1), all & ~(5 << 8));
+            due("thinned to thick", Bounds.lit("chimney 5 0 9;chimney 5 7 9;", 0, 8).free(1), all & ~(1 << 15));
+            due("thinned below thick", Bounds.lit("chimney 5 0 9;chimney 5 8 9;", 0, 8).free(1), all);
+            due("thinned to thick, the other", Bounds.lit("chimney 5 7 9;chimney 5 0 9;", 0, 15).free(1), all & ~(1 << 8));
+            due("thinned below thick, the other", Bounds.lit("chimney 5 8 9;chimney 5 0 9;", 0, 16).free(1), all);
+            due("it would be lit too late", Bounds.lit(LONG + "chimney 5 12 9;", 0, 23).free(1), all);
+            due("it would be lit too early", Bounds.lit("chimney 5 12 9;" + LONG, 0, 0).free(1), all);
+            SmokesApart ten = Bounds.lit(LONG.repeat(5) + "chimney 5 1 9 9 9 9 9 9;".repeat(5), 0, 23);
+            due("the last of ten, one above", ten.free(9), all & ~(31 << 19));
         });
         Bounds.holds(0, "A PLAN lights all CHIMNEYS that aren't lit (5 at most), each in a QUARTER FREE for it, so that no two TOUCH", () -> {
             planned("", 0, 0);
@@ -283,6 +296,7 @@ public final class BoundsSoughtTest {
             due("alone", Bounds.lit(ALIKE, 0, 0).higher(0), 0);
             due("touches none", Bounds.lit(ALIKE + ALIKE, 0, 0, 1, 1).higher(0), 0);
             due("by 1", Bounds.lit(ALIKE + ALIKE, 0, 0, 1, 0).higher(0), 1);
+            due("alike, but not lit", Bounds.lit(LONG + LONG, 1, 0).higher(1), 0);
             for (int height = 0; height <= 6; height++) due("below " + height, higherBelow(height), 6 + height);
             for (int height = 7; height <= 11; height++) due("below " + height, higherBelow(height), NONE);
             due("below 12", higherBelow(12), 6);
@@ -318,6 +332,8 @@ public final class BoundsSoughtTest {
                     it.light(2, 4);
                     due("two that are 9 thick", it.thickness(), 10);
                 }
+            due("alike, but not lit", Bounds.lit(LONG + LONG, 0, 0).thickness(), 1);
+            due("alike, but not lit, the other", Bounds.lit(LONG + LONG, 1, 0).thickness(), 1);
             due("smoke that is nowhere together", Bounds.lit("chimney 5 0 9;chimney 6 0 9;", 0, 0, 1, 0).thickness(), 1);
             Bounds.asks("nothing changes", Bounds.lively(), 4, SmokesApart::thickness);
         });

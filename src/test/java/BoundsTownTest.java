@@ -292,6 +292,16 @@ public final class BoundsTownTest {
             faulty("A", 1, 0);
             faulty("Z", 1, 0);
             faulty("fineZ 1;", 1, 4);
+            for (String line : new String[] {"chimney 1 1 1", "wind 1 1 1", "layer 1", "thick 1", "fine 1"}) {
+                taken(line + ";", 1);
+                for (int i = 0; i < line.indexOf(' '); i++) {
+                    faulty(line.substring(0, i) + "z" + line.substring(i + 1) + ";", 2, 0);
+                    faulty(line.substring(0, i) + line.substring(i + 1) + ";", 2, 0);
+                }
+            }
+            for (String word : new String[] {"from", "to"})
+                for (int i = 0; i < word.length(); i++)
+                    faulty("chimney 1 1 1 " + word.substring(0, i) + "z" + word.substring(i + 1) + " 5;", 2, 14);
             faulty("fine` 1;", 1, 4);
         });
         Bounds.holds(0, "N (1 to 3 digits)", () -> {
@@ -459,6 +469,7 @@ public final class BoundsTownTest {
             due("the first", it.chimney(0, 5), NONE);
             due("the last", it.chimney(1, 5), NONE);
         });
+        Bounds.holds(3, "are THE TOWN, none being lit", BoundsTownTest::townBehindTown);
         Bounds.holds(3, "how many LINES (all stays with a FAULT)", () -> {
             taken("", 0);
             taken("fine 1;", 1);
@@ -492,6 +503,53 @@ public final class BoundsTownTest {
             faulty("fine 100;", 3, 5);
             faulty("wind 1 1 1;".repeat(13), 4, 132);
         });
+    }
+
+    private static final String[] TOWNS = {"", "chimney 5 0 2;", "chimney 5 0 2;".repeat(5), "chimney 5 0 2 to 1;".repeat(3),
+        "chimney 5 0 4 4;chimney 6 1 3;chimney 5 0 1 from 2 to 9;wind 0 4 3;layer 2;fine 7;thick 1;",
+        "chimney 5 0 9 9 9 9 9 9;".repeat(2) + "chimney 5 7 9 9;thick 1;wind 2 5 1;", "chimney 20 0 9;chimney 21 1 9;".repeat(4),
+        "chimney 5 0 3 from 23;chimney 4 0 2 from 23;chimney 6 0 1;wind 0 2 2;"};
+
+    /** An object that had another town before answers as a new one does. */
+    private static void townBehindTown() {
+        for (String before : TOWNS)
+            for (String text : TOWNS) {
+                SmokesApart it = new SmokesApart();
+                Check.tell(it, before);
+                answers(it);
+                Check.tell(it, text);
+                long[] got = answers(it);
+                long[] want = answers(Check.town(text));
+                for (int i = 0; i < want.length; i++) due("answer " + i + " of " + shown(text) + " behind " + shown(before), got[i], want[i]);
+            }
+    }
+
+    /** What a town tells with its first, then its first two, then its last alone lit, and of sheets. */
+    private static long[] answers(SmokesApart it) {
+        int last = it.count(0) - 1;
+        long[] all = new long[160];
+        int n = 0;
+        for (int round = 0; round < 4; round++) {
+            for (int what : new int[] {0, 1, 10, 12, 14}) all[n++] = it.plan(what);
+            for (int q : new int[] {0, 3, 23}) {
+                all[n++] = it.most(q, 0);
+                all[n++] = it.most(q, 1);
+            }
+            long[] more = {it.plans(), it.shut(), it.sky(), it.blackest(), it.soot(5), it.pair(0), it.pair(NONE), it.thickness(), it.higher(0),
+                it.free(last), it.best(last, 3), it.worth(last, 3), it.gusts(9), it.steady(NONE), it.cheapest(last), it.count(6)};
+            for (long m : more) all[n++] = m;
+            for (int soot : new int[] {0, 1, 3, 6}) {
+                Check.row(it, round, 1, 5, soot, 4, soot / 2);
+                all[n++] = it.sheets(round);
+                all[n++] = it.sure(round);
+                all[n++] = it.sheet(round, 1, last);
+            }
+            if (round < 2) it.light(round, 23);
+            if (round == 2) it.out(0);
+            if (round == 2) it.out(1);
+            if (round == 2) it.light(last, 23);
+        }
+        return all;
     }
 
     private static void promise4() {

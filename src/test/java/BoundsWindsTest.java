@@ -96,6 +96,17 @@ public final class BoundsWindsTest {
             SmokesApart never = Bounds.lit("chimney 5 0 9;chimney 5 0 9;chimney 30 0 9;", 0, 0, 1, 0, 2, 0);
             due("by none", never.steady(NONE), 0);
             due("nor by any seed", never.calm(60), 0);
+            for (int smoke = 1; smoke <= 9; smoke++)
+                for (int thick = 1; thick <= 9; thick++) {
+                    SmokesApart two = Bounds.lit("chimney 5 0 9;chimney 5 0 " + smoke + ";thick " + thick + ";", 0, 0, 1, 0);
+                    boolean touch = smoke >= thick;
+                    due(smoke + " by thick " + thick + ": steady", two.steady(NONE), touch ? 0 : 49);
+                    due(smoke + " by thick " + thick + ": calm", two.calm(1), touch ? 0 : 1);
+                    due(smoke + " by thick " + thick + ": breaks", two.breaks(1), touch ? 1 : NONE);
+                    due(smoke + " by thick " + thick + ": gusts", two.gusts(1), touch ? 1 : 0);
+                    two.out(1);
+                    due(smoke + " by thick " + thick + ": best", two.best(1, 1), touch ? 1 : 0);
+                }
         });
     }
 
@@ -183,6 +194,9 @@ public final class BoundsWindsTest {
                     SmokesApart it = Bounds.lit(gusty(from, to), 0, 0);
                     for (int n = 1; n <= 20; n++) due(from + " to " + to + " of " + n, it.best(1, n), bestQuarter(from, to, n));
                 }
+            due("always good in 0", Bounds.lit(gusty(0, 6), 0, 0).best(1, 20), 0);
+            due("always good in 7", Bounds.lit(gusty(1, 7), 0, 0).best(1, 20), 7);
+            due("good in 23 alone", Bounds.lit("chimney 5 0 9 9 9;chimney 5 0 9 from 20;", 0, 20).best(1, 20), 23);
             due("nobody lit: its from", Check.town("chimney 5 0 9 from 7;").best(0, 20), 7);
             due("from 23", Check.town("chimney 5 0 9 from 23;").best(0, 20), 23);
             due("good in none", Bounds.lit("chimney 5 0 9;chimney 5 0 9 from 6 to 6;", 0, 6).best(1, 20), 6);
@@ -281,10 +295,21 @@ public final class BoundsWindsTest {
             due("each cell once: 9", twice.sky(), 0);
             twice.light(2, 0);
             due("and 1", twice.sky(), 1);
-            SmokesApart out = Bounds.lit("chimney 39 0 9;chimney 0 0 9;wind 0 4 4;", 0, 0);
+            due("out again", twice.out(2), 0);
+            due("9 again", twice.sky(), 0);
+            SmokesApart out = Bounds.lit("chimney 39 0 9;chimney 0 0 8;chimney 0 12 1;wind 0 4 4;", 0, 0);
             due("not out of all cells", out.sky(), 0);
             out.light(1, 0);
-            due("1 and 9", out.sky(), 1);
+            due("1 and 8", out.sky(), 0);
+            out.light(2, 0);
+            due("1 and 8 and 1", out.sky(), 1);
+            StringBuilder forked = new StringBuilder("wind 1 4 4;wind 2 3 3;");
+            for (int c = 0; c < 7; c++) forked.append("chimney ").append(5 * c).append(" 0 9 9;");
+            SmokesApart fork = Check.town(forked + "chimney 39 0 1;");
+            for (int c = 0; c < 7; c++) fork.light(c, 0);
+            due("7 times 9 and 8", fork.sky(), 11);
+            fork.light(7, 0);
+            due("and 1", fork.sky(), 12);
             Bounds.asks("nothing changes", Bounds.lively(), 0, SmokesApart::sky);
         });
     }
