@@ -229,6 +229,17 @@ public final class BoundsTownTest {
     }
 
     private static void settings() {
+        Bounds.holds(0, "wind N N N | layer N | thick N | fine N.", () -> {
+            for (String line : new String[] {"wind 1 1 1", "layer 1", "thick 1", "fine 1"}) {
+                taken(line + ";", 1);
+                faulty(line + " 1;", 2, line.length() + 1);
+                faulty(line.substring(0, line.length() - 2) + ";", 2, line.length() - 2);
+                faulty(line, 2, line.length());
+                faulty(line + " from 1;", 2, line.length() + 1);
+            }
+            faulty("wind;", 2, 4);
+            faulty("wind 1;", 2, 6);
+        });
         Bounds.holds(0, "layer: 0 to 20 (6)", () -> {
             number("layer ", 0, 20, ";", 103);
             due("not told", taken("fine 1;", 1).count(3), 6);
@@ -508,7 +519,7 @@ public final class BoundsTownTest {
     private static final String[] TOWNS = {"", "chimney 5 0 2;", "chimney 5 0 2;".repeat(5), "chimney 5 0 2 to 1;".repeat(3),
         "chimney 5 0 4 4;chimney 6 1 3;chimney 5 0 1 from 2 to 9;wind 0 4 3;layer 2;fine 7;thick 1;",
         "chimney 5 0 9 9 9 9 9 9;".repeat(2) + "chimney 5 7 9 9;thick 1;wind 2 5 1;", "chimney 20 0 9;chimney 21 1 9;".repeat(4),
-        "chimney 5 0 3 from 23;chimney 4 0 2 from 23;chimney 6 0 1;wind 0 2 2;"};
+        "chimney 5 0 3 from 23;chimney 4 0 2 from 23;chimney 6 0 1;wind 0 2 2;", "chimney 5 0 2 from 23;"};
 
     /** An object that had another town before answers as a new one does. */
     private static void townBehindTown() {
