@@ -166,7 +166,7 @@ public final class SmokesApart {
         if (told.isMissing()) {
             return ROW_MISSING;
         }
-        court.tryRow(told);
+        court.lightRow(told, false);
         switch (what) {
             case 0:
                 return court.place;
@@ -182,7 +182,7 @@ public final class SmokesApart {
         if (told == null) {
             return NO_SUCH;
         }
-        return told.isMissing() ? ROW_MISSING : court.lightRow(told);
+        return told.isMissing() ? ROW_MISSING : court.lightRow(told, true);
     }
 
     // ---- smoke
@@ -827,6 +827,7 @@ public final class SmokesApart {
         private static final int NUMBER = 2;
         private static final int SIGN = 3;
         private static final int STRANGE = 4;
+        private static final int BLANK = 5;
 
         private static final int NO_TOKEN = 1;
         private static final int MISPLACED = 2;
@@ -967,45 +968,44 @@ public final class SmokesApart {
         }
 
         private void takeToken() {
-            while (next < length && isBlank(byteAt(next))) {
+            while (next < length && sortOf(byteAt(next)) == BLANK) {
                 next++;
             }
             start = next;
             value = 0;
-            int first = byteAt(next);
-            if (first == NONE) {
-                sort = END;
-            } else if (isLetter(first)) {
-                sort = WORD;
-                while (next < length && isLetter(byteAt(next))) {
-                    next++;
-                }
-            } else if (isDigit(first)) {
-                takeDigits();
-            } else {
-                sort = first == ';' ? SIGN : STRANGE;
+            sort = sortOf(byteAt(next));
+            if (sort == SIGN || sort == STRANGE) {
                 next++;
+                return;
+            }
+            while (next < length && sortOf(byteAt(next)) == sort) {
+                value = sort == NUMBER ? 10 * value + byteAt(next) - '0' : 0;
+                next++;
+            }
+            if (sort == NUMBER && next - start > 3) {
+                sort = STRANGE;
             }
         }
 
-        private void takeDigits() {
-            while (next < length && isDigit(byteAt(next))) {
-                value = 10 * value + byteAt(next) - '0';
-                next++;
+        /** What a sign is, or what sort of token it begins. */
+        private static int sortOf(int sign) {
+            if (sign >= 'a' && sign <= 'z') {
+                return WORD;
             }
-            sort = next - start > 3 ? STRANGE : NUMBER;
-        }
-
-        private static boolean isBlank(int sign) {
-            return sign == 10 || sign == 32;
-        }
-
-        private static boolean isLetter(int sign) {
-            return sign >= 'a' && sign <= 'z';
-        }
-
-        private static boolean isDigit(int sign) {
-            return sign >= '0' && sign <= '9';
+            if (sign >= '0' && sign <= '9') {
+                return NUMBER;
+            }
+            switch (sign) {
+                case NONE:
+                    return END;
+                case 10:
+                case 32:
+                    return BLANK;
+                case ';':
+                    return SIGN;
+                default:
+                    return STRANGE;
+            }
         }
     }
 
@@ -1126,7 +1126,7 @@ public final class SmokesApart {
         /** X in a quarter of what began in another one, as thick as can be; NONE: out of all cells. */
         private int xOnWay(int c, int begin, int quarter) {
             int age = quarter - begin;
-            if (!town.has(c) || begin < 0 || begin >= BEGINNINGS || age < 0 || age >= AGES) {
+            if (c < 0 || c >= town.chimneys || begin < 0 || begin >= BEGINNINGS || age < 0 || age >= AGES) {
                 return NONE;
             }
             return ways[(c * BEGINNINGS + begin) * AGES + age];
@@ -1326,13 +1326,9 @@ public final class SmokesApart {
             this.plumes = plumes;
         }
 
-        void tryRow(NumberRow row) {
+        /** Lights till one can't be: how many; what is lit stays so, or is put back as it was. */
+        int lightRow(NumberRow row, boolean stays) {
             System.arraycopy(town.litIn, 0, litBefore, 0, MAX_CHIMNEYS);
-            lightRow(row);
-            System.arraycopy(litBefore, 0, town.litIn, 0, MAX_CHIMNEYS);
-        }
-
-        int lightRow(NumberRow row) {
             place = NONE;
             why = 0;
             int done = 0;
@@ -1347,6 +1343,9 @@ public final class SmokesApart {
                 }
             }
             litThen = town.litCount();
+            if (!stays) {
+                System.arraycopy(litBefore, 0, town.litIn, 0, MAX_CHIMNEYS);
+            }
             return done;
         }
 
